@@ -185,11 +185,11 @@ public final class DominatorCert {
 
     /** Empty if v is not reachable. */
     private int dominatorsOf(int v) {
-        if (!isReached(v)) return 0;
+        int reached = reachedWithout(NONE, NONE);
         int dominators = 0;
         for (int u = 0; u < vertexCount; u++) {
-            int others = reachedWithout(u, NONE);
-            if (!contains(others, v)) dominators |= 1 << u;
+            int dominated = reached & ~reachedWithout(u, NONE);
+            if (contains(dominated, v)) dominators |= 1 << u;
         }
         return dominators;
     }
