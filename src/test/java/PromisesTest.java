@@ -24,30 +24,6 @@ public final class PromisesTest {
         Due.end();
     }
 
-    private static DominatorCert graph(int n, int... ends) {
-        DominatorCert x = new DominatorCert(n);
-        for (int k = 0; k + 1 < ends.length; k += 2) x.link(ends[k], ends[k + 1]);
-        return x;
-    }
-
-    /** 0 -> 1, then 1 -> {2, 3} -> 4 -> 5 -> 1; 6 leads in, but nothing leads to it; 7 stands alone. */
-    private static DominatorCert diamond() {
-        return graph(8, 0, 1, 1, 2, 1, 3, 2, 4, 3, 4, 4, 5, 5, 1, 6, 4);
-    }
-
-    /** A path over all 24 vertices, its edges put in from the far end on. */
-    private static DominatorCert longPath() {
-        DominatorCert x = new DominatorCert(24);
-        for (int v = 23; v > 0; v--) x.link(v - 1, v);
-        return x;
-    }
-
-    private static DominatorCert full() {
-        DominatorCert x = new DominatorCert(3);
-        for (int k = 0; k < 60; k++) x.link(0, 1);
-        return x;
-    }
-
     private static void newObject() {
         int[] given = {LOWEST, -1, 0, 1, 2, 3, 23, 24, 25, 1000, HIGHEST};
         int[] kept = {2, 2, 2, 2, 2, 3, 23, 24, 24, 24, 24};
@@ -62,14 +38,14 @@ public final class PromisesTest {
             Due.answer(call + "reachable(last)", x.reachable(kept[k] - 1), 0);
             Due.answer(call + "reachable(n)", x.reachable(kept[k]), -1);
         }
-        DominatorCert one = graph(4, 0, 1);
+        DominatorCert one = Graphs.of(4, 0, 1);
         DominatorCert other = new DominatorCert(4);
         Due.answer("1: edges of another object", other.edges(), 0);
         Due.answer("1: edges of the first object", one.edges(), 1);
     }
 
     private static void vertices() {
-        DominatorCert x = graph(9, 0, 1, 1, 8);
+        DominatorCert x = Graphs.of(9, 0, 1, 1, 8);
         Due.answer("2: vertices() with edges", x.vertices(), 9);
         x.cut(0);
         x.link(9, 0);
@@ -103,7 +79,7 @@ public final class PromisesTest {
     }
 
     private static void cut() {
-        DominatorCert x = graph(5, 0, 1, 1, 2, 2, 3, 3, 4);
+        DominatorCert x = Graphs.of(5, 0, 1, 1, 2, 2, 3, 3, 4);
         int[] bad = {-1, 4, 60, LOWEST, HIGHEST};
         for (int b : bad) Due.answer("4: cut(" + b + ")", x.cut(b), -1);
         Due.answer("4: edges() after refusals", x.edges(), 4);
@@ -121,7 +97,7 @@ public final class PromisesTest {
         Due.answer("4: cut(0) a third time", x.cut(0), 0);
         Due.answer("4: cut(0) of nothing", x.cut(0), -1);
 
-        DominatorCert y = full();
+        DominatorCert y = Graphs.sixtyLikeEdges();
         y.cut(59);
         y.link(1, 2);
         Due.answer("4: cut(60) when full", y.cut(60), -1);
@@ -129,24 +105,24 @@ public final class PromisesTest {
         Due.answer("4: the last edge moved down", y.needs(58, 2), 1);
         Due.answer("4: position 59 is gone", y.needs(59, 2), -1);
 
-        DominatorCert twins = graph(2, 0, 1, 0, 1);
+        DominatorCert twins = Graphs.of(2, 0, 1, 0, 1);
         twins.cut(0);
         Due.answer("4: only one of two like edges goes", twins.reachable(1), 1);
     }
 
     private static void edges() {
-        DominatorCert x = graph(3, 0, 1, 0, 1, 2, 2);
+        DominatorCert x = Graphs.of(3, 0, 1, 0, 1, 2, 2);
         Due.answer("5: edges()", x.edges(), 3);
         x.cut(1);
         Due.answer("5: edges() after a cut", x.edges(), 2);
         x.link(3, 3);
         x.cut(2);
         Due.answer("5: edges() after refusals", x.edges(), 2);
-        Due.answer("5: edges() when full", full().edges(), 60);
+        Due.answer("5: edges() when full", Graphs.sixtyLikeEdges().edges(), 60);
     }
 
     private static void reachable() {
-        DominatorCert x = diamond();
+        DominatorCert x = Graphs.diamond();
         int[] due = {1, 1, 1, 1, 1, 1, 0, 0};
         for (int v = 0; v < 8; v++) Due.answer("6: reachable(" + v + ")", x.reachable(v), due[v]);
         int[] bad = {-1, 8, 24, 32, LOWEST, HIGHEST};
@@ -154,22 +130,22 @@ public final class PromisesTest {
         x.cut(0);
         Due.answer("6: a loop that the root does not lead to", x.reachable(1), 0);
         Due.answer("6: the root always is", x.reachable(0), 1);
-        Due.answer("6: the far end of the longest path", longPath().reachable(23), 1);
-        Due.answer("6: edges are not walked backwards", graph(2, 1, 0).reachable(1), 0);
+        Due.answer("6: the far end of the longest path", Graphs.path(24).reachable(23), 1);
+        Due.answer("6: edges are not walked backwards", Graphs.of(2, 1, 0).reachable(1), 0);
     }
 
     private static void reachableCount() {
-        DominatorCert x = diamond();
+        DominatorCert x = Graphs.diamond();
         Due.answer("7: reachableCount()", x.reachableCount(), 6);
         x.link(5, 6);
         Due.answer("7: reachableCount() with 6", x.reachableCount(), 7);
         x.cut(0);
         Due.answer("7: reachableCount() of the root alone", x.reachableCount(), 1);
-        Due.answer("7: reachableCount() of the longest path", longPath().reachableCount(), 24);
+        Due.answer("7: reachableCount() of the longest path", Graphs.path(24).reachableCount(), 24);
     }
 
     private static void immediate() {
-        DominatorCert x = diamond();
+        DominatorCert x = Graphs.diamond();
         int[] due = {-3, 0, 1, 1, 1, 4, -2, -2};
         for (int v = 0; v < 8; v++) Due.answer("8: immediate(" + v + ")", x.immediate(v), due[v]);
         Due.answer("8: immediate(-1)", x.immediate(-1), -1);
@@ -181,15 +157,15 @@ public final class PromisesTest {
         x.link(5, 0);
         Due.answer("8: immediate(0) with an edge into the root", x.immediate(0), -3);
 
-        DominatorCert path = longPath();
+        DominatorCert path = Graphs.path(24);
         for (int v = 1; v < 24; v++) Due.answer("8: immediate on a path", path.immediate(v), v - 1);
-        DominatorCert down = graph(4, 0, 3, 3, 2, 2, 1);
+        DominatorCert down = Graphs.of(4, 0, 3, 3, 2, 2, 1);
         Due.answer("8: immediate(1) under greater numbers", down.immediate(1), 2);
         Due.answer("8: immediate(2) under greater numbers", down.immediate(2), 3);
     }
 
     private static void dominates() {
-        DominatorCert x = diamond();
+        DominatorCert x = Graphs.diamond();
         Due.answer("9: dominates(0, 5)", x.dominates(0, 5), 1);
         Due.answer("9: dominates(1, 5)", x.dominates(1, 5), 1);
         Due.answer("9: dominates(2, 4)", x.dominates(2, 4), 0);
@@ -210,17 +186,17 @@ public final class PromisesTest {
     }
 
     private static void common() {
-        DominatorCert x = diamond();
+        DominatorCert x = Graphs.diamond();
         int[] due = {1, 2, 3, 3, 3, 4, -2, -2};
         for (int v = 0; v < 8; v++) Due.answer("10: common(" + v + ")", x.common(v), due[v]);
         Due.answer("10: common(-1)", x.common(-1), -1);
         Due.answer("10: common(8)", x.common(8), -1);
         Due.answer("10: common(highest)", x.common(HIGHEST), -1);
-        Due.answer("10: common(23) on the longest path", longPath().common(23), 24);
+        Due.answer("10: common(23) on the longest path", Graphs.path(24).common(23), 24);
     }
 
     private static void nearest() {
-        DominatorCert x = diamond();
+        DominatorCert x = Graphs.diamond();
         Due.answer("11: nearest(2, 3)", x.nearest(2, 3), 1);
         Due.answer("11: nearest(5, 2)", x.nearest(5, 2), 1);
         Due.answer("11: nearest(4, 5)", x.nearest(4, 5), 4);
@@ -234,37 +210,35 @@ public final class PromisesTest {
         Due.answer("11: u not good, v not reachable", x.nearest(-1, 6), -1);
         Due.answer("11: u not reachable, v not good", x.nearest(6, 8), -1);
         Due.answer("11: far too high", x.nearest(HIGHEST, 0), -1);
-        DominatorCert down = graph(6, 0, 5, 5, 4, 4, 1, 4, 2);
+        DominatorCert down = Graphs.of(6, 0, 5, 5, 4, 4, 1, 4, 2);
         Due.answer("11: nearest(1, 2) under greater numbers", down.nearest(1, 2), 4);
     }
 
     private static void below() {
-        DominatorCert x = diamond();
+        DominatorCert x = Graphs.diamond();
         int[] due = {6, 5, 1, 1, 2, 1, -2, -2};
         for (int u = 0; u < 8; u++) Due.answer("12: below(" + u + ")", x.below(u), due[u]);
         Due.answer("12: below(-1)", x.below(-1), -1);
         Due.answer("12: below(8)", x.below(8), -1);
         Due.answer("12: below(lowest)", x.below(LOWEST), -1);
         Due.answer("12: below(0) of the root alone", new DominatorCert(5).below(0), 1);
-        Due.answer("12: below(0) of the longest path", longPath().below(0), 24);
+        Due.answer("12: below(0) of the longest path", Graphs.path(24).below(0), 24);
     }
 
     private static void children() {
-        DominatorCert x = diamond();
+        DominatorCert x = Graphs.diamond();
         int[] due = {1, 3, 0, 0, 1, 0, -2, -2};
         for (int u = 0; u < 8; u++) Due.answer("13: children(" + u + ")", x.children(u), due[u]);
         Due.answer("13: children(-1)", x.children(-1), -1);
         Due.answer("13: children(8)", x.children(8), -1);
         Due.answer("13: children(highest)", x.children(HIGHEST), -1);
-        Due.answer("13: the root is nobody's child", graph(2, 0, 0, 0, 1, 1, 0).children(0), 1);
+        Due.answer("13: the root is nobody's child", Graphs.of(2, 0, 0, 0, 1, 1, 0).children(0), 1);
         Due.answer("13: children(0) of the root alone", new DominatorCert(2).children(0), 0);
-        DominatorCert star = new DominatorCert(24);
-        for (int v = 1; v < 24; v++) star.link(0, v);
-        Due.answer("13: children(0) of a star", star.children(0), 23);
+        Due.answer("13: children(0) of a star", Graphs.star(24).children(0), 23);
     }
 
     private static void border() {
-        DominatorCert x = diamond();
+        DominatorCert x = Graphs.diamond();
         Due.answer("14: border(2, 4)", x.border(2, 4), 1);
         Due.answer("14: border(4, 1), the edge leaves from 5", x.border(4, 1), 1);
         Due.answer("14: border(1, 1), a loop back to u", x.border(1, 1), 1);
@@ -282,14 +256,14 @@ public final class PromisesTest {
         Due.answer("14: border(2, 2), an edge from 2 to itself", x.border(2, 2), 1);
         Due.answer("14: border(1, 2), u still dominates v", x.border(1, 2), 0);
 
-        DominatorCert y = graph(4, 3, 0, 0, 1);
+        DominatorCert y = Graphs.of(4, 3, 0, 0, 1);
         Due.answer("14: an edge from an unreachable vertex", y.border(0, 0), 0);
         y.link(1, 3);
         Due.answer("14: the same edge, now from a reachable one", y.border(0, 0), 1);
     }
 
     private static void needs() {
-        DominatorCert x = diamond();
+        DominatorCert x = Graphs.diamond();
         int[] dueFor5 = {1, 0, 0, 0, 0, 1, 0, 0};
         for (int i = 0; i < 8; i++) Due.answer("15: needs(" + i + ", 5)", x.needs(i, 5), dueFor5[i]);
         Due.answer("15: needs(1, 2)", x.needs(1, 2), 1);
@@ -306,14 +280,14 @@ public final class PromisesTest {
         Due.answer("15: v not reachable", x.needs(0, 6), -3);
         Due.answer("15: no edges at all", new DominatorCert(2).needs(0, 0), -1);
 
-        DominatorCert twins = graph(3, 0, 1, 1, 2, 0, 1);
+        DominatorCert twins = Graphs.of(3, 0, 1, 1, 2, 0, 1);
         Due.answer("15: one of two like edges", twins.needs(0, 2), 0);
         Due.answer("15: the other of them", twins.needs(2, 2), 0);
         Due.answer("15: the only edge into 2", twins.needs(1, 2), 1);
     }
 
     private static void bridges() {
-        DominatorCert x = diamond();
+        DominatorCert x = Graphs.diamond();
         Due.answer("16: bridges()", x.bridges(), 4);
         x.link(4, 5);
         Due.answer("16: bridges() with 4 -> 5 twice", x.bridges(), 3);
@@ -321,18 +295,18 @@ public final class PromisesTest {
         x.link(2, 2);
         Due.answer("16: edges among unreachable ones and to itself", x.bridges(), 3);
         Due.answer("16: bridges() of nothing", new DominatorCert(4).bridges(), 0);
-        Due.answer("16: bridges() of the longest path", longPath().bridges(), 23);
-        Due.answer("16: bridges() of sixty like edges", full().bridges(), 0);
+        Due.answer("16: bridges() of the longest path", Graphs.path(24).bridges(), 23);
+        Due.answer("16: bridges() of sixty like edges", Graphs.sixtyLikeEdges().bridges(), 0);
     }
 
     private static void height() {
-        DominatorCert x = diamond();
+        DominatorCert x = Graphs.diamond();
         Due.answer("17: height()", x.height(), 4);
         x.link(6, 7);
         Due.answer("17: unreachable ones do not count", x.height(), 4);
         x.link(0, 4);
         Due.answer("17: height() with 0 -> 4", x.height(), 3);
         Due.answer("17: height() of the root alone", new DominatorCert(9).height(), 1);
-        Due.answer("17: height() of the longest path", longPath().height(), 24);
+        Due.answer("17: height() of the longest path", Graphs.path(24).height(), 24);
     }
 }
