@@ -9,6 +9,8 @@ public final class ModelTest {
     public static void main(String[] args) {
         allGraphsOfThree();
         allGraphsOfFour();
+        allListsOf(2, 5);
+        allListsOf(3, 4);
         for (int run = 0; run < RUNS; run++) longRun(run);
         Due.end();
     }
@@ -38,6 +40,24 @@ public final class ModelTest {
                 if ((set >> e & 1) == 1) m.link(u, (u + 1 + e % 3) % 4);
             }
             compareWhole("4 vertices, edges " + set, m);
+        }
+    }
+
+    /** Every list of at most so many edges: in every order, and with any of them several times. */
+    private static void allListsOf(int n, int most) {
+        int lists = 1;
+        for (int length = 0; length <= most; length++) {
+            for (int list = 0; list < lists; list++) {
+                Model m = new Model(n);
+                int rest = list;
+                for (int k = 0; k < length; k++) {
+                    int edge = rest % (n * n);
+                    m.link(edge / n, edge % n);
+                    rest /= n * n;
+                }
+                compareWhole(n + " vertices, list " + list + " of length " + length, m);
+            }
+            lists *= n * n;
         }
     }
 

@@ -30,6 +30,7 @@ public final class TermsTest {
         Due.test("a refused call changes nothing: the list", TermsTest::refusedCallsLeaveTheList);
         Due.test("the tests are made in the order named: link", TermsTest::orderInLink);
         Due.test("the tests are made in the order named: one vertex", TermsTest::orderForOneVertex);
+        Due.test("the tests are made in the order named: immediate", TermsTest::orderInImmediate);
         Due.test("the tests are made in the order named: two vertices", TermsTest::orderForTwoVertices);
         Due.test("the tests are made in the order named: needs", TermsTest::orderInNeeds);
         Due.test("good if it is 0 .. n-1: those are good", TermsTest::goodVertices);
@@ -343,13 +344,28 @@ public final class TermsTest {
         new Call("link", 2, 2).isDue(Graphs.sixtyLikeEdges(), -2);
     }
 
-    /** A number that is not good is reachable by nothing, and the root is always reachable. */
+    /** A number that is not good is no vertex's, so it is neither reachable nor the root. */
     private static void orderForOneVertex() {
         for (int bad : Beside.range(8)) {
             for (String name : Call.QUESTIONS_OF_ONE) new Call(name, bad).isDue(Graphs.lost(), -1);
         }
+    }
+
+    /** The root is always reachable, so -2 comes first and is still never its answer, whatever edges there are. */
+    private static void orderInImmediate() {
+        for (int set = 0; set < 1 << 9; set++) {
+            DominatorCert x = Graphs.ofThree(set);
+            new Call("immediate", 0).isDue(x, -3);
+            for (int v = 1; v < 3; v++) {
+                int answer = x.immediate(v);
+                Due.holds("immediate(" + v + ") is -2 just if it is not reachable", (answer == -2) == (x.reachable(v) == 0));
+                Due.holds("immediate(" + v + ") is never -3", answer != -3);
+            }
+            for (int k = Integer.bitCount(set); k > 0; k--) x.cut(0);
+            new Call("immediate", 0).isDue(x, -3);
+        }
         new Call("immediate", 0).isDue(Graphs.lost(), -3);
-        new Call("immediate", 0).isDue(new DominatorCert(LEAST), -3);
+        for (int n = LEAST; n <= MOST; n++) new Call("immediate", 0).isDue(new DominatorCert(n), -3);
     }
 
     private static void orderForTwoVertices() {
